@@ -401,16 +401,11 @@ public final class MapGeneralizer {
 
     public double placedShare(int level) throws IllegalArgumentException, ArithmeticException {
         requireLevel(level);
-        int shown = 0;
-        for (int point = 0; point < sheet.points.count; point++) {
-            if (isShown(level, point)) {
-                shown++;
-            }
-        }
-        if (shown == 0) {
+        int number = Integer.bitCount(shown(level));
+        if (number == 0) {
             throw new ArithmeticException("no point is shown");
         }
-        return (double) levels.labelsOf(level).countPlaced() / (double) shown;
+        return (double) levels.labelsOf(level).countPlaced() / (double) number;
     }
 
     public int placedOn(int point) throws IndexOutOfBoundsException {
@@ -443,7 +438,9 @@ public final class MapGeneralizer {
             input.length = 0;
             throw new IllegalArgumentException("the input is not a text");
         }
-        int outcome = draftEntries(entries);
+        // The draft takes the entries, so that the map stays as it is if one of them cannot be made.
+        draft.copyFrom(sheet);
+        int outcome = draft.makeEntries(input, entries);
         input.length = 0;
         if (outcome == IN_THE_WAY) {
             throw new UnsupportedOperationException("a line cannot be added");
@@ -568,20 +565,6 @@ public final class MapGeneralizer {
     private void beginChange() {
         history.remember(sheet);
         levels.spoil();
-    }
-
-    /** The draft takes the entries, so that the map stays as it is if one of them cannot be made. */
-    private int draftEntries(int entries) {
-        draft.copyFrom(sheet);
-        input.at = 0;
-        for (int entry = 0; entry < entries; entry++) {
-            input.passEntry();
-            int outcome = draft.makeEntry(input);
-            if (outcome != MADE) {
-                return outcome;
-            }
-        }
-        return MADE;
     }
 
     /** Exact geometry of positions that are held as one number each. */
@@ -1260,16 +1243,21 @@ public final class MapGeneralizer {
             return points.isAnyAt(position) || lines.lineOver(position) != NONE;
         }
 
-        /** Makes the entry that a script has passed last, and tells whether it could. */
-        int makeEntry(Script script) {
-            if (script.kind == 'L') {
-                return makeLine(script.numbers, script.size);
+        /** Makes the entries of a text one after the other, up to the first one that cannot be made. */
+        int makeEntries(Script script, int entries) {
+            int outcome = MADE;
+            script.at = 0;
+            for (int entry = 0; entry < entries && outcome == MADE; entry++) {
+                script.passEntry();
+                if (script.kind == 'L') {
+                    outcome = makeLine(script.numbers, script.size);
+                } else if (script.kind == 'P') {
+                    outcome = makePoint(script.numbers);
+                } else {
+                    parcels.giveField(script.numbers[0], script.numbers[1], script.numbers[2]);
+                }
             }
-            if (script.kind == 'P') {
-                return makePoint(script.numbers);
-            }
-            parcels.giveField(script.numbers[0], script.numbers[1], script.numbers[2]);
-            return MADE;
+            return outcome;
         }
 
         private int makeLine(int[] vertices, int size) {

@@ -55,7 +55,8 @@ public final class FaceTest {
         for (Method method : face.getDeclaredMethods()) {
             int modifiers = method.getModifiers();
             check(method + " is public or private", Modifier.isPublic(modifiers) || Modifier.isPrivate(modifiers));
-            check(method + " bears a name of its own", Modifier.isPublic(modifiers) || !names.contains(method.getName()));
+            check(method + " bears a name of its own",
+                    Modifier.isPublic(modifiers) || !names.contains(method.getName()));
             check(method + " has at most seven parameters", method.getParameterCount() <= 7);
         }
         int fields = 0;

@@ -117,6 +117,14 @@ public final class LabelsTest {
         MapGeneralizer map = Check.mapOf("L20,31-33,32-46,31;");
         map.addPoint(30, 30, 9, 4, 2, 0);
         Check.due("33: a vertex", 4, map.refusal(0, 0, 0));
+        for (String line : new String[] {"L31,31-31,0;", "L34,31-34,0;", "L31,32-31,50;", "L34,32-34,50;"}) {
+            MapGeneralizer corner = Check.mapOf(line);
+            corner.addPoint(30, 30, 9, 4, 2, 0);
+            Check.due("33: a vertex in a corner of the label, " + line, 4, corner.refusal(0, 0, 0));
+        }
+        MapGeneralizer beside = Check.mapOf("L30,31-30,40;L35,32-35,50;L31,33-31,40;L34,30-34,20;");
+        beside.addPoint(30, 30, 9, 4, 2, 0);
+        Check.due("33: vertices beside the label", 0, beside.refusal(0, 0, 0));
         Check.due("33: a segment alone does not matter", 0, map.refusal(0, 0, 1));
         Check.due("33: the vertex is gone on level 4", 0, map.refusal(4, 0, 0));
         Check.due("32: position on level 0", 1, map.position(0, 0));

@@ -112,6 +112,10 @@ public final class LinesTest {
         MapGeneralizer cross = Check.mapOf("L0,10-4,14-8,10-30,8-30,0-4,0-4,11;");
         Check.due("17: its own line crosses", 4, cross.why(4, 0, 1));
         Check.due("14: and it stays", 7, cross.vertices(4, 0));
+        MapGeneralizer behind = Check.mapOf("L0,10-4,14-8,10-4,0-4,11;");
+        Check.due("17: the segment behind the next one crosses", 4, behind.why(4, 0, 1));
+        MapGeneralizer before = Check.mapOf("L4,11-4,0-8,10-4,14-0,10;");
+        Check.due("17: the segment before the one before crosses", 4, before.why(4, 0, 3));
         MapGeneralizer fold = Check.mapOf("L0,0-4,2-8,0-4,0;L3,1-5,1;");
         Check.due("17: the next segment would go back", 4, fold.why(2, 0, 1));
         Check.due("17: the other line is in the way", 4, fold.why(2, 0, 2));

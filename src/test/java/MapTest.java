@@ -88,7 +88,12 @@ public final class MapTest {
     private static void addPointRefused() {
         MapGeneralizer map = Check.mapOf("L0,10-4,11-8,10;");
         Check.refused("3: on a vertex", UNSUPPORTED, () -> map.addPoint(4, 11, 1, 2, 1, 0));
-        Check.refused("3: on an end", UNSUPPORTED, () -> map.addPoint(8, 10, 1, 2, 1, 0));
+        Check.refused("3: on the last vertex", UNSUPPORTED, () -> map.addPoint(8, 10, 1, 2, 1, 0));
+        Check.refused("3: on the first vertex", UNSUPPORTED, () -> map.addPoint(0, 10, 1, 2, 1, 0));
+        MapGeneralizer turned = Check.mapOf("L8,10-0,10;");
+        Check.refused("3: on its last vertex", UNSUPPORTED, () -> turned.addPoint(0, 10, 1, 2, 1, 0));
+        Check.refused("3: on its first vertex", UNSUPPORTED, () -> turned.addPoint(8, 10, 1, 2, 1, 0));
+        Check.due("3: before it", 0, turned.addPoint(9, 10, 1, 2, 1, 0));
         Check.tell(map, "L20,0-26,3;");
         Check.refused("3: within a segment", UNSUPPORTED, () -> map.addPoint(22, 1, 1, 2, 1, 0));
         Check.due("3: beside a segment", 0, map.addPoint(22, 2, 1, 2, 1, 0));

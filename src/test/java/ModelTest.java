@@ -269,7 +269,8 @@ public final class ModelTest {
             }
             default -> {
                 int setting = near(0, 2);
-                int value = setting == 0 ? near(0, random.nextBoolean() ? 500 : 40) : setting == 1 ? near(0, 20) : near(0, 9);
+                int most = setting == 0 ? random.nextBoolean() ? 500 : 40 : setting == 1 ? 20 : 9;
+                int value = near(0, most);
                 due("set(" + a + "," + setting + "," + value + ")", () -> it.set(a, setting, value),
                         () -> model.set(a, setting, value));
             }
