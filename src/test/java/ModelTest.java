@@ -1,5 +1,6 @@
 import java.util.ArrayList;
 import java.util.Arrays;
+import java.util.Collections;
 import java.util.List;
 import java.util.Map;
 import java.util.Random;
@@ -8,8 +9,10 @@ import java.util.concurrent.Callable;
 
 /** Random runs of calls, of which each one must be answered as the model answers it. */
 public final class ModelTest {
-    private static final int RUNS = Integer.getInteger("runs", 400);
-    private static final int CALLS = 300;
+    private static final int RUNS = Integer.getInteger("runs", 1500);
+    /** Nothing is promised about an object after its 512th call. */
+    private static final int CALLS = 512;
+    private static final int CALLS_BEFORE_LAST = 420;
     private static final String NOISE = "LPF0123456789,-;=rwh ~";
 
     private final Random random;
@@ -54,13 +57,13 @@ public final class ModelTest {
     }
 
     private int play() {
-        int start = random.nextInt(12);
+        int start = random.nextInt(8);
         for (int i = 0; i < start; i++) {
             tellText();
             addPoint();
             paint();
         }
-        while (calls < CALLS && wrong == 0) {
+        while (calls < CALLS_BEFORE_LAST && wrong == 0) {
             int kind = random.nextInt(100);
             if (kind < 6) {
                 tellText();
@@ -76,18 +79,21 @@ public final class ModelTest {
         return wrong;
     }
 
-    /** Every vertex of every level, by all that can be asked of it. */
+    /** Vertices of all levels in any order, by all that can be asked of them, with the calls that are left. */
     private void askAllOfLines() {
-        calls = 0;
         int tolerance = 40 + random.nextInt(460);
         due("set(4,0," + tolerance + ")", () -> it.set(4, 0, tolerance), () -> model.set(4, 0, tolerance));
+        List<int[]> all = new ArrayList<>();
         for (int level = 0; level < 5; level++) {
             for (int line = 0; line < lines(); line++) {
-                calls = 0;
                 for (int index = 0; index < model.vertices(level, line); index++) {
-                    askOfVertex(level, line, index);
+                    all.add(new int[] {level, line, index});
                 }
             }
+        }
+        Collections.shuffle(all, random);
+        for (int[] one : all) {
+            askOfVertex(one[0], one[1], one[2]);
         }
     }
 
@@ -117,8 +123,7 @@ public final class ModelTest {
         if (calls >= CALLS || wrong > 0) {
             return "";
         }
-        // Characters are not counted: the object goes on beyond its 512 calls, and runs show more so.
-        calls += what.startsWith("append") ? 0 : 1;
+        calls++;
         Object got = outcome(mine);
         Object want = outcome(models);
         trace.append(what).append(" = ").append(got).append('\n');
@@ -308,7 +313,7 @@ public final class ModelTest {
                 }
             }
             case 1, 2 -> due("save()", it::save, model::save);
-            case 3 -> due("restore()", it::restore, model::restore);
+            case 3, 4 -> due("restore()", it::restore, model::restore);
             default -> {
                 int times = random.nextInt(8) == 0 ? 9 : 1 + random.nextInt(2);
                 for (int i = 0; i < times; i++) {
