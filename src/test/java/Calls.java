@@ -3,6 +3,7 @@ import java.lang.reflect.Method;
 import java.lang.reflect.Modifier;
 import java.util.HashMap;
 import java.util.Map;
+import java.util.WeakHashMap;
 
 /**
  * Calls that are written as in a program, such as "vertices(4, 0)", and their answers as texts. An
@@ -11,6 +12,10 @@ import java.util.Map;
  * a line by describe, and fields(level) are the parcels of all fields, row by row.
  */
 final class Calls {
+    /** Nothing is promised about an object after its 512th call. */
+    private static final int MOST_CALLS = 512;
+
+    private static final Map<MapGeneralizer, Integer> MADE = new WeakHashMap<>();
     private static final Map<String, Method> METHODS = methods();
     private static final Map<String, String> EXCEPTIONS = Map.of(
             "IllegalArgumentException", "!argument", "IllegalStateException", "!state",
@@ -38,16 +43,28 @@ final class Calls {
         try {
             switch (name) {
                 case "tell":
+                    count(map, inside.length() + 1);
                     return String.valueOf(Check.tell(map, inside));
                 case "text":
-                    return Check.textOf(map, number(numbers[0]), number(numbers[1]));
+                    String text = Check.textOf(map, number(numbers[0]), number(numbers[1]));
+                    count(map, text.length() + 1);
+                    return text;
                 case "fields":
+                    count(map, 64);
                     return Check.fieldsOf(map, number(numbers[0]));
                 default:
+                    count(map, 1);
                     return invoke(map, METHODS.get(name), numbers);
             }
         } catch (RuntimeException e) {
             return nameOf(e);
+        }
+    }
+
+    private static void count(MapGeneralizer map, int calls) {
+        int made = MADE.merge(map, calls, Integer::sum);
+        if (made > MOST_CALLS) {
+            throw new AssertionError("a test goes beyond " + MOST_CALLS + " calls on one object");
         }
     }
 

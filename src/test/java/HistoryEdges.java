@@ -22,8 +22,8 @@ final class HistoryEdges {
     }
 
     private static void changes() {
-        Edge.says(43, "A change is a call of addPoint, removeLine, removePoint, setCorner, paint, setClass, setStrict, set or"
-                + " read that returns without an exception.");
+        Edge.says(43, "A change is a call of addPoint, removeLine, removePoint, setCorner, paint, setClass,"
+                + " setStrict, set or read that returns without an exception.");
         String before = Sample.everything(Sample.small());
         for (String change : CHANGES) {
             MapGeneralizer changed = Sample.small();
@@ -38,8 +38,8 @@ final class HistoryEdges {
             Edge.due(change + " is undone", before, Sample.everything(map));
         }
         Edge.says(43, "Undoes the latest change that is remembered.");
-        Edge.onNew("setClass(0, 1) = 0", "setClass(0, 2) = 1", "undo() = 1", "setClass(0, 3) = 1", "undo() = 1", "undo() = 0",
-                "setClass(0, 3) = 0");
+        Edge.onNew("setClass(0, 1) = 0", "setClass(0, 2) = 1", "undo() = 1", "setClass(0, 3) = 1", "undo() = 1",
+                "undo() = 0", "setClass(0, 3) = 0");
         Edge.says(43, "Returns the number of changes that are still remembered.");
         Edge.onNew("setStrict(true) = false", "setStrict(true) = true", "setStrict(true) = true", "undo() = 2",
                 "undo() = 1", "undo() = 0", "undo() = !element", "setStrict(true) = false", "undo() = 0");
@@ -76,8 +76,8 @@ final class HistoryEdges {
     }
 
     private static void eightChanges() {
-        Edge.says(43, "The object remembers everything except the input, the error position and what was saved before the last 8"
-                + " changes.");
+        Edge.says(43, "The object remembers everything except the input, the error position and what was saved before"
+                + " the last 8 changes.");
         for (int changes = 0; changes <= 17; changes++) {
             MapGeneralizer map = new MapGeneralizer();
             for (int value = 1; value <= changes; value++) {
@@ -189,13 +189,15 @@ final class HistoryEdges {
     }
 
     private static void save() {
-        Edge.says(44, "Saves everything except the input, the error position and what was saved before, which is replaced.");
+        Edge.says(44, "Saves everything except the input, the error position and what was saved before, which is"
+                + " replaced.");
         MapGeneralizer map = Sample.small();
         Edge.on(map, "save() = 3", "clear() = 3", "restore() = 3", "count(1) = 3", "count(3) = 56", "count(4) = 10",
                 "point(0, 5) = 0", "point(2, 3) = 12", "parcelAt(0, 7, 7) = 15", "setting(4, 0) = 32",
                 "text(0, 2) = L40,40-42,44-44,40;", "parcels(0, 1) = 1", "parcels(0, 3) = 1", "errorPosition() = 2",
                 "append('7') = 3", "undo() = !element");
-        Edge.onNew("set(4, 0, 500) = 32", "set(4, 1, 20) = 4", "set(4, 2, 9) = 4", "set(1, 0, 0) = 8", "setStrict(true) = false",
+        Edge.onNew("set(4, 0, 500) = 32", "set(4, 1, 20) = 4", "set(4, 2, 9) = 4", "set(1, 0, 0) = 8",
+                "setStrict(true) = false",
                 "setClass(15, 3) = 0", "save() = 0", "clear() = 0", "setClass(0, 2) = 0", "restore() = 0",
                 "setting(4, 0) = 500", "setting(4, 1) = 20", "setting(4, 2) = 9", "setting(1, 0) = 0",
                 "setStrict(false) = true", "setClass(15, 0) = 3", "setClass(0, 0) = 0");
@@ -213,8 +215,8 @@ final class HistoryEdges {
 
     private static void restore() {
         Edge.says(45, "Throws `IllegalStateException` if nothing was saved");
-        Edge.onNew("restore() = !state", "clear() = 0", "restore() = !state", "save() = 0", "restore() = 0", "clear() = 0",
-                "restore() = 0");
+        Edge.onNew("restore() = !state", "clear() = 0", "restore() = !state", "save() = 0", "restore() = 0",
+                "clear() = 0", "restore() = 0");
         Edge.says(45, "It stays saved.");
         Edge.on(Edge.made("tell(L0,0-5,0;)", "save()"), "removeLine(0) = 0", "restore() = 1", "removeLine(0) = 0",
                 "tell(L9,9-8,8;) = 1", "restore() = 1", "text(0, 0) = L0,0-5,0;", "setClass(0, 3) = 0", "restore() = 1",

@@ -59,11 +59,13 @@ final class LabelEdges {
         int[][] ranks = {{5, 5}, {5, 4}, {5, 6}, {0, 9}, {9, 0}, {9, 9}, {0, 0}};
         for (int[] rank : ranks) {
             boolean isFirstBefore = rank[0] >= rank[1];
-            Edge.on(Edge.made("addPoint(30, 30, " + rank[0] + ", 4, 2, 0)", "addPoint(35, 30, " + rank[1] + ", 4, 2, 1)"),
+            Edge.on(Edge.made("addPoint(30, 30, " + rank[0] + ", 4, 2, 0)",
+                    "addPoint(35, 30, " + rank[1] + ", 4, 2, 1)"),
                     "position(0, 0) = " + (isFirstBefore ? 0 : 1), "position(0, 1) = " + (isFirstBefore ? 2 : 1),
                     "refusal(0, 0, 0) = " + (isFirstBefore ? 0 : 3), "refusal(0, 1, 1) = " + (isFirstBefore ? 3 : 0));
         }
-        Edge.on(Edge.made("addPoint(30, 30, 5, 4, 2, 0)", "addPoint(35, 30, 6, 4, 2, 1)", "addPoint(30, 33, 7, 4, 1, 3)"),
+        Edge.on(Edge.made("addPoint(30, 30, 5, 4, 2, 0)", "addPoint(35, 30, 6, 4, 2, 1)",
+                "addPoint(30, 33, 7, 4, 1, 3)"),
                 "position(0, 2) = 3", "position(0, 1) = 2", "position(0, 0) = 1", "refusal(0, 1, 1) = 3",
                 "refusal(0, 0, 0) = 3");
     }
@@ -85,8 +87,8 @@ final class LabelEdges {
     }
 
     private static void coveredByPositions() {
-        Edge.says(35, "A label has four positions, of which 0 covers the coordinates from x + 1 to x + width and from y +"
-                + " 1 to y + height, where x and y are the coordinates of its point;");
+        Edge.says(35, "A label has four positions, of which 0 covers the coordinates from x + 1 to x + width and from"
+                + " y + 1 to y + height, where x and y are the coordinates of its point;");
         covers("2, 1", 0, 31, 32, 31, 31);
         covers("12, 4", 0, 31, 42, 31, 34);
         covers("3, 2", 0, 31, 33, 31, 32);
@@ -105,8 +107,8 @@ final class LabelEdges {
     }
 
     private static void edgeOfMap() {
-        Edge.says(33, "A position is refused for the first of these reasons that applies: 1, it covers coordinates that are"
-                + " not from 0 to 63;");
+        Edge.says(33, "A position is refused for the first of these reasons that applies: 1, it covers coordinates"
+                + " that are not from 0 to 63;");
         for (int[] size : new int[][] {{2, 1}, {12, 4}, {7, 3}}) {
             int width = size[0];
             int height = size[1];
@@ -135,7 +137,8 @@ final class LabelEdges {
         Edge.says(33, "2, it covers a point that is shown;");
         String[] inside = {"31, 31", "34, 31", "31, 32", "34, 32", "33, 31"};
         for (String at : inside) {
-            Edge.on(Edge.made("addPoint(30, 30, 9, 4, 2, 0)", "addPoint(" + at + ", 3, 2, 1, 0)"), "refusal(0, 0, 0) = 2",
+            Edge.on(Edge.made("addPoint(30, 30, 9, 4, 2, 0)", "addPoint(" + at + ", 3, 2, 1, 0)"),
+                    "refusal(0, 0, 0) = 2",
                     "refusal(0, 0, 1) = 0", "position(0, 0) = 1", "refusal(3, 0, 0) = 2", "refusal(4, 0, 0) = 0",
                     "position(4, 0) = 0");
         }
@@ -143,10 +146,11 @@ final class LabelEdges {
                 "removePoint(0) = 1", "refusal(0, 0, 0) = 0");
         String[] outside = {"30, 31", "31, 30", "35, 31", "34, 30", "30, 32", "31, 33", "35, 32", "34, 33"};
         for (String at : outside) {
-            Edge.on(Edge.made("addPoint(30, 30, 9, 4, 2, 0)", "addPoint(" + at + ", 3, 2, 1, 0)"), "refusal(0, 0, 0) = 0",
-                    "position(0, 0) = 0");
+            Edge.on(Edge.made("addPoint(30, 30, 9, 4, 2, 0)", "addPoint(" + at + ", 3, 2, 1, 0)"),
+                    "refusal(0, 0, 0) = 0", "position(0, 0) = 0");
         }
-        String[][] others = {{"1", "29, 31", "26, 32", "25, 31", "29, 33"}, {"2", "29, 29", "26, 28", "25, 29", "29, 27"},
+        String[][] others = {{"1", "29, 31", "26, 32", "25, 31", "29, 33"}, {"2", "29, 29", "26, 28", "25, 29",
+                "29, 27"},
             {"3", "31, 29", "34, 28", "35, 29", "31, 27"}};
         for (String[] one : others) {
             for (int i = 1; i < one.length; i++) {
@@ -154,7 +158,8 @@ final class LabelEdges {
                         "refusal(0, 0, " + one[0] + ") = " + (i < 3 ? 2 : 0));
             }
         }
-        Edge.says(33, "Points that are not shown do not matter for labels, and segments between vertices do not, either;");
+        Edge.says(33, "Points that are not shown do not matter for labels, and segments between vertices do not,"
+                + " either;");
         Edge.on(Edge.made("addPoint(30, 30, 9, 4, 2, 0)", "addPoint(31, 31, 0, 12, 4, 2)"), "refusal(0, 0, 0) = 2",
                 "refusal(1, 0, 0) = 0", "labels(1) = 1", "covered(1) = 8");
         Edge.on(Edge.made("tell(L20,31-46,31;)", "addPoint(30, 30, 9, 4, 2, 0)"), "refusal(0, 0, 0) = 0",
@@ -168,18 +173,20 @@ final class LabelEdges {
             "30, 34, 5, 12, 4, 3", "36, 35, 5, 12, 4, 2", "33, 33, 5, 2, 1, 2", "38, 33, 5, 4, 1, 2"};
         for (String second : overlapping) {
             String corner = second.substring(second.length() - 1);
-            Edge.on(Edge.made(first, "addPoint(" + second + ")"), "position(0, 0) = 0", "refusal(0, 1, " + corner + ") = 3");
+            Edge.on(Edge.made(first, "addPoint(" + second + ")"), "position(0, 0) = 0",
+                    "refusal(0, 1, " + corner + ") = 3");
         }
         String[] beside = {"39, 33, 5, 4, 2, 2", "25, 33, 5, 5, 2, 3", "39, 29, 5, 4, 2, 1", "25, 30, 5, 5, 2, 0",
             "35, 35, 5, 4, 2, 2", "26, 35, 5, 5, 2, 3", "35, 28, 5, 4, 2, 1", "26, 27, 5, 5, 2, 0"};
         for (String second : beside) {
             String corner = second.substring(second.length() - 1);
-            Edge.on(Edge.made(first, "addPoint(" + second + ")"), "position(0, 0) = 0", "refusal(0, 1, " + corner + ") = 0",
-                    "position(0, 1) = " + corner);
+            Edge.on(Edge.made(first, "addPoint(" + second + ")"), "position(0, 0) = 0",
+                    "refusal(0, 1, " + corner + ") = 0", "position(0, 1) = " + corner);
         }
         Edge.on(Edge.made("addPoint(30, 30, 5, 4, 2, 0)", "addPoint(37, 33, 5, 4, 2, 2)"), "refusal(0, 0, 0) = 0",
                 "refusal(0, 1, 2) = 3", "position(0, 1) = 3");
-        Edge.says(33, "refusal tells of labels that were placed before, also for positions behind the one that was taken.");
+        Edge.says(33, "refusal tells of labels that were placed before, also for positions behind the one that was"
+                + " taken.");
         Edge.on(Edge.made(first, "addPoint(35, 33, 5, 4, 2, 3)"), "position(0, 1) = 3", "refusal(0, 1, 2) = 3",
                 "refusal(0, 1, 3) = 0", "refusal(0, 1, 0) = 0", "refusal(0, 0, 0) = 0", "refusal(0, 0, 3) = 0");
     }
@@ -260,7 +267,8 @@ final class LabelEdges {
         Edge.says(32, "Returns the position, 0 to 3, or -1 if it is not placed or the point is not shown.");
         for (int corner = 0; corner < 4; corner++) {
             Edge.on(Edge.made("addPoint(30, 30, 4, 2, 1, " + corner + ")"), "position(0, 0) = " + corner,
-                    "position(4, 0) = " + corner, "set(4, 2, 5) = 4", "position(4, 0) = -1", "position(3, 0) = " + corner);
+                    "position(4, 0) = " + corner, "set(4, 2, 5) = 4", "position(4, 0) = -1",
+                    "position(3, 0) = " + corner);
         }
         Edge.says(32, "Returns the position of the label of a point.");
         Edge.on(Edge.made("addPoint(30, 30, 4, 2, 1, 2)", "addPoint(40, 30, 4, 2, 1, 3)"), "position(0, 0) = 2",
@@ -268,7 +276,8 @@ final class LabelEdges {
     }
 
     private static void refusal() {
-        Edge.says(33, "Returns why a position of the label of a point that is shown is refused, when its label is placed.");
+        Edge.says(33, "Returns why a position of the label of a point that is shown is refused, when its label is"
+                + " placed.");
         Edge.on(Edge.made("addPoint(0, 30, 5, 2, 1, 0)"), "refusal(0, 0, 0) = 0", "refusal(0, 0, 1) = 1",
                 "refusal(0, 0, 2) = 1", "refusal(0, 0, 3) = 0");
         Edge.says(33, "Throws `IllegalStateException` if the point is not shown");
@@ -276,7 +285,8 @@ final class LabelEdges {
                 "refusal(3, 0, 0) = !state", "refusal(3, 0, 4) = !argument", "refusal(3, 1, 0) = !index",
                 "set(3, 2, 2) = 3", "refusal(3, 0, 0) = 0");
         Edge.says(33, "Throws `IllegalArgumentException` if level or position is out of range");
-        Edge.on(Edge.made("addPoint(30, 30, 0, 2, 1, 0)"), "refusal(-1, 0, 0) = !argument", "refusal(5, 0, 0) = !argument",
+        Edge.on(Edge.made("addPoint(30, 30, 0, 2, 1, 0)"), "refusal(-1, 0, 0) = !argument",
+                "refusal(5, 0, 0) = !argument",
                 "refusal(0, 0, -1) = !argument", "refusal(0, 0, 4) = !argument", "refusal(0, 1, 4) = !argument",
                 "refusal(1, 1, 4) = !argument", "refusal(5, 1, 0) = !argument", "refusal(0, 0, 3) = 0");
         Edge.says(33, "Throws `IndexOutOfBoundsException` if there is no such point");
@@ -293,7 +303,8 @@ final class LabelEdges {
         Edge.says(34, "Returns the number of labels that are placed.");
         Edge.on(map, "labels(0) = 12", "labels(1) = 9", "labels(4) = 2");
         Edge.says(34, "Returns the number.");
-        Edge.onNew("labels(0) = 0", "labels(4) = 0", "addPoint(5, 5, 0, 2, 1, 0) = 0", "labels(0) = 1", "labels(1) = 0");
+        Edge.onNew("labels(0) = 0", "labels(4) = 0", "addPoint(5, 5, 0, 2, 1, 0) = 0", "labels(0) = 1",
+                "labels(1) = 0");
         Edge.on(Edge.made("tell(" + String.join("", BLOCKS) + ")", "addPoint(30, 30, 9, 2, 1, 0)",
                 "addPoint(50, 50, 9, 2, 1, 0)"), "labels(0) = 1", "shown(0) = 3", "placedShare(0) = 0.5");
         Edge.says(36, "Returns the number of coordinates that labels cover.");
@@ -317,15 +328,16 @@ final class LabelEdges {
         for (int point = 0; point < 12; point++) {
             Edge.make(many, "addPoint(" + 4 * point + ", 5, 5, 2, 1, 0)");
         }
-        Edge.on(many, "labelAt(0, 45, 6) = 11", "labelAt(0, 46, 6) = 11", "labelAt(0, 47, 6) = -1", "labelAt(0, 1, 6) = 0");
+        Edge.on(many, "labelAt(0, 45, 6) = 11", "labelAt(0, 46, 6) = 11", "labelAt(0, 47, 6) = -1",
+                "labelAt(0, 1, 6) = 0");
         Edge.says(35, "Throws `IllegalArgumentException` if a number is out of range");
         Edge.onNew("labelAt(-1, 0, 0) = !argument", "labelAt(5, 0, 0) = !argument", "labelAt(0, MIN, 0) = !argument",
                 "labelAt(0, 0, MAX) = !argument");
     }
 
     private static void placedShare() {
-        Edge.says(37, "Returns the share of the points that are shown whose labels are placed: their number divided by the"
-                + " number of points that are shown, both converted to double.");
+        Edge.says(37, "Returns the share of the points that are shown whose labels are placed: their number divided"
+                + " by the number of points that are shown, both converted to double.");
         String blocks = "tell(" + String.join("", BLOCKS) + ")";
         MapGeneralizer map = Edge.made(blocks, "addPoint(30, 30, 9, 2, 1, 0)");
         Edge.on(map, "placedShare(0) = 0.0");
@@ -349,7 +361,8 @@ final class LabelEdges {
     private static void placedOn() {
         Edge.says(38, "Returns the levels on which the label of a point is placed.");
         for (int rank = 0; rank < 6; rank++) {
-            Edge.on(Edge.made("addPoint(30, 30, " + rank + ", 2, 1, 0)"), "placedOn(0) = " + Math.min(31, (2 << rank) - 1));
+            Edge.on(Edge.made("addPoint(30, 30, " + rank + ", 2, 1, 0)"), "placedOn(0) = " + Math.min(31,
+                    (2 << rank) - 1));
         }
         Edge.says(38, "Returns the set of levels.");
         Edge.on(Edge.made("tell(L0,2-1,1-4,1;)", "addPoint(0, 0, 9, 2, 1, 0)"), "placedOn(0) = 30", "set(1, 0, 0) = 8",
@@ -357,8 +370,8 @@ final class LabelEdges {
         Edge.on(Edge.made("tell(" + String.join("", BLOCKS) + ")", "addPoint(30, 30, 9, 2, 1, 0)"), "placedOn(0) = 0",
                 "removeLine(0) = 3", "placedOn(0) = 31");
         Edge.says(38, "Throws `IndexOutOfBoundsException` if there is no such point");
-        Edge.onNew("placedOn(0) = !index", "placedOn(-1) = !index", "addPoint(30, 30, 9, 2, 1, 0) = 0", "placedOn(0) = 31",
-                "placedOn(1) = !index", "placedOn(MAX) = !index", "placedOn(MIN) = !index");
+        Edge.onNew("placedOn(0) = !index", "placedOn(-1) = !index", "addPoint(30, 30, 9, 2, 1, 0) = 0",
+                "placedOn(0) = 31", "placedOn(1) = !index", "placedOn(MAX) = !index", "placedOn(MIN) = !index");
     }
 
     private static void refused() {

@@ -78,7 +78,8 @@ final class LineEdges {
         Edge.onNew("tell(L0,0-9,0-9,9-0,0;) = !unsupported", "tell(L0,0-9,0-0,0;) = !unsupported",
                 "tell(L0,0-9,0-9,9-0,9-0,0;) = !unsupported", "tell(L5,0-9,0-0,0;) = !unsupported",
                 "tell(L0,0-9,0-9,9-0,9-0,1;) = 1");
-        Edge.onNew("tell(L9,0-0,0-5,0;) = !unsupported", "tell(L9,0-0,0-1,0;) = !unsupported", "tell(L9,0-0,0-1,1;) = 1");
+        Edge.onNew("tell(L9,0-0,0-5,0;) = !unsupported", "tell(L9,0-0,0-1,0;) = !unsupported",
+                "tell(L9,0-0,0-1,1;) = 1");
     }
 
     private static void apart() {
@@ -95,7 +96,8 @@ final class LineEdges {
         for (String line : right) {
             Edge.onNew("tell(L10,10-20,10;) = 1", "tell(" + line + ") = 1", "count(0) = 2");
         }
-        Edge.onNew("tell(L0,0-3,3;) = 1", "tell(L1,2-2,1;) = !unsupported", "tell(L1,0-3,2;) = 1", "tell(L0,1-2,3;) = 1");
+        Edge.onNew("tell(L0,0-3,3;) = 1", "tell(L1,2-2,1;) = !unsupported", "tell(L1,0-3,2;) = 1",
+                "tell(L0,1-2,3;) = 1");
         Edge.onNew("tell(L0,0-6,3;) = 1", "tell(L2,1-2,9;) = !unsupported", "tell(L3,1-3,2;) = !unsupported",
                 "tell(L3,2-3,9;) = 1", "tell(L3,1-3,0;) = 1");
     }
@@ -177,7 +179,8 @@ final class LineEdges {
                 "removed(0, 1) = 8");
         Edge.on(Edge.made("tell(L5,2-5,3-0,1;L2,7-6,2-7,0-4,1;)", "set(1, 0, 4)"), "weight(0, 1, 1) = 3",
                 "why(1, 1, 1) = 4", "why(1, 0, 1) = 2", "why(1, 1, 2) = 2");
-        Edge.says(15, "of several, the one of the line with the lowest number, and of these the first one of the line.");
+        Edge.says(15, "of several, the one of the line with the lowest number, and of these the first one of the"
+                + " line.");
         Edge.on(Edge.made("tell(L2,7-6,2-7,0-4,1;L5,2-5,3-0,1;)", "set(1, 0, 5)"), "weight(0, 0, 2) = 5",
                 "weight(0, 1, 1) = 5", "text(1, 0) = L2,7-6,2-4,1;", "text(1, 1) = L5,2-0,1;");
         Edge.on(Edge.made("tell(L5,2-5,3-0,1;L2,7-6,2-7,0-4,1;)", "set(1, 0, 5)"), "weight(0, 0, 1) = 5",
@@ -196,7 +199,7 @@ final class LineEdges {
             for (int x = 0; x < 10; x++) {
                 text.append(x == 0 ? "" : "-").append(x).append(',').append(y + x % 2);
             }
-            Edge.on(map, "tell(" + text + ";) = 1", "text(0, " + line + ") = " + text + ";");
+            Edge.on(map, "tell(" + text + ";) = 1", "vertex(0, " + line + ", 9, true) = " + (y + 1));
         }
         Edge.on(map, "count(4) = 60", "removed(0, 1) = 0", "removed(0, 2) = 0", "tell(L0,60-9,60;) = !state",
                 "weight(2, 5, 8) = 2", "why(2, 5, 8) = 2", "why(2, 5, 9) = 1", "set(2, 0, 2) = 1", "removed(1, 2) = 48",
@@ -347,7 +350,8 @@ final class LineEdges {
     private static void removed() {
         Edge.says(19, "Returns the vertices of the lower level minus those of the higher one.");
         Edge.on(Edge.made(HILLS, ROOF.replace("1", "2")), "removed(0, 0) = 0", "removed(4, 4) = 0", "removed(0, 1) = 1",
-                "removed(1, 2) = 2", "removed(2, 3) = 0", "removed(3, 4) = 1", "removed(0, 4) = 4", "removed(0, 3) = 3");
+                "removed(1, 2) = 2", "removed(2, 3) = 0", "removed(3, 4) = 1", "removed(0, 4) = 4",
+                "removed(0, 3) = 3");
         Edge.says(19, "removed is the same with from and to exchanged.");
         Edge.on(Edge.made(HILLS, ROOF.replace("1", "2")), "removed(1, 0) = 1", "removed(2, 1) = 2", "removed(4, 3) = 1",
                 "removed(4, 0) = 4", "removed(3, 0) = 3");
@@ -382,8 +386,8 @@ final class LineEdges {
         Edge.on(Edge.made("tell(L0,0-5,0;L0,2-5,2;L0,4-5,4;L0,6-5,6;L0,8-5,8;)", ROOF), "mostSimplified(4) = 5");
         Edge.says(21, "Throws `NoSuchElementException` if no line loses any");
         Edge.onNew("mostSimplified(0) = !element", "mostSimplified(4) = !element");
-        Edge.on(Edge.made(ROOF), "mostSimplified(0) = !element", "mostSimplified(3) = !element", "mostSimplified(4) = 0",
-                "set(4, 0, 31) = 32", "mostSimplified(4) = !element");
+        Edge.on(Edge.made(ROOF), "mostSimplified(0) = !element", "mostSimplified(3) = !element",
+                "mostSimplified(4) = 0", "set(4, 0, 31) = 32", "mostSimplified(4) = !element");
     }
 
     private static void lineAt() {

@@ -127,7 +127,8 @@ final class MapEdges {
             number++;
         }
         Edge.says(3, "addPoint looks at the lines of level 0.");
-        Edge.on(Edge.made("tell(L0,10-4,11-8,10;)"), "lineAt(1, 4, 10) = 0", "addPoint(4, 11, 5, 2, 1, 0) = !unsupported",
+        Edge.on(Edge.made("tell(L0,10-4,11-8,10;)"), "lineAt(1, 4, 10) = 0",
+                "addPoint(4, 11, 5, 2, 1, 0) = !unsupported",
                 "addPoint(4, 10, 5, 2, 1, 0) = 0", "lineAt(1, 4, 10) = -1", "lineAt(1, 4, 11) = 0");
     }
 
@@ -168,7 +169,8 @@ final class MapEdges {
         Edge.on(Edge.made(SIX_LINES), "removeLine(5) = 5", "vertices(0, 5) = !index", "lineAt(0, 10, 0) = -1",
                 "count(4) = 10");
         Edge.says(4, "Returns the number of lines that remain.");
-        Edge.on(Edge.made(SIX_LINES), "removeLine(5) = 5", "removeLine(0) = 4", "removeLine(0) = 3", "removeLine(2) = 2",
+        Edge.on(Edge.made(SIX_LINES), "removeLine(5) = 5", "removeLine(0) = 4", "removeLine(0) = 3",
+                "removeLine(2) = 2",
                 "removeLine(1) = 1", "removeLine(0) = 0", "removeLine(0) = !index", "count(4) = 0");
         Edge.says(4, "Throws `IndexOutOfBoundsException` if there is no such line");
         Edge.onNew("removeLine(0) = !index", "removeLine(-1) = !index");
@@ -197,8 +199,8 @@ final class MapEdges {
         Edge.on(withPoints(12), "setCorner(11, 0) = 3", "point(11, 5) = 0", "point(10, 5) = 2", "setCorner(0, 3) = 0",
                 "point(0, 5) = 3", "point(1, 5) = 1");
         Edge.says(6, "Returns the previous corner.");
-        Edge.on(withPoints(1), "setCorner(0, 3) = 0", "setCorner(0, 3) = 3", "setCorner(0, 2) = 3", "setCorner(0, 1) = 2",
-                "setCorner(0, 0) = 1");
+        Edge.on(withPoints(1), "setCorner(0, 3) = 0", "setCorner(0, 3) = 3", "setCorner(0, 2) = 3",
+                "setCorner(0, 1) = 2", "setCorner(0, 0) = 1");
         Edge.says(6, "Throws `IndexOutOfBoundsException` if there is no such point");
         Edge.onNew("setCorner(0, 0) = !index", "setCorner(0, 4) = !index");
         Edge.on(withPoints(12), "setCorner(12, 0) = !index", "setCorner(-1, 0) = !index", "setCorner(12, -1) = !index",
@@ -309,7 +311,8 @@ final class MapEdges {
     }
 
     private static void settingsBeside() {
-        Edge.says(10, "A setting of a level is never less than that of the level before, where those of level 0 are 0.");
+        Edge.says(10, "A setting of a level is never less than that of the level before, where those of level 0 are"
+                + " 0.");
         Edge.onNew("set(2, 0, 7) = !state", "set(2, 0, 8) = 16", "set(2, 0, 9) = 8", "set(3, 0, 8) = !state",
                 "set(3, 0, 9) = 24", "set(2, 0, 10) = !state", "set(1, 0, 0) = 8", "set(1, 0, 9) = 0",
                 "set(1, 0, 10) = !state", "setting(1, 0) = 9");
@@ -366,7 +369,8 @@ final class MapEdges {
                 "point(0, 3) = 5", "point(0, 4) = 4", "point(0, 5) = 2");
         Edge.says(13, "Throws `IndexOutOfBoundsException` if there is no such point");
         Edge.onNew("point(0, 0) = !index", "point(-1, -1) = !index", "point(0, 6) = !index");
-        Edge.on(map, "point(12, 0) = !index", "point(-1, 0) = !index", "point(12, 6) = !index", "point(MAX, 0) = !index");
+        Edge.on(map, "point(12, 0) = !index", "point(-1, 0) = !index", "point(12, 6) = !index",
+                "point(MAX, 0) = !index");
         Edge.says(13, "Throws `IllegalArgumentException` if what is not 0 to 5");
         Edge.on(map, "point(11, -1) = !argument", "point(0, 6) = !argument", "point(0, MIN) = !argument",
                 "point(0, MAX) = !argument");

@@ -105,7 +105,7 @@ final class Model {
         return 0 <= s && s <= divisor && 0 <= t && t <= divisor;
     }
 
-    private static boolean simple(List<Vertex> line) {
+    static boolean simple(List<Vertex> line) {
         for (int i = 0; i + 1 < line.size(); i++) {
             if (line.get(i).equals(line.get(i + 1))) {
                 return false;
@@ -126,7 +126,7 @@ final class Model {
         return true;
     }
 
-    private static boolean common(List<Vertex> one, List<Vertex> other) {
+    static boolean common(List<Vertex> one, List<Vertex> other) {
         for (int i = 0; i + 1 < one.size(); i++) {
             for (int j = 0; j + 1 < other.size(); j++) {
                 if (touch(one.get(i), one.get(i + 1), other.get(j), other.get(j + 1))) {
@@ -137,7 +137,7 @@ final class Model {
         return false;
     }
 
-    private static boolean isOn(Vertex p, List<Vertex> line) {
+    static boolean isOn(Vertex p, List<Vertex> line) {
         for (int i = 0; i + 1 < line.size(); i++) {
             if (on(p, line.get(i), line.get(i + 1))) {
                 return true;
@@ -146,7 +146,7 @@ final class Model {
         return false;
     }
 
-    private static boolean inTriangle(Vertex p, Vertex a, Vertex b, Vertex c) {
+    static boolean inTriangle(Vertex p, Vertex a, Vertex b, Vertex c) {
         long whole = Math.abs(cross(a, b, c));
         if (whole == 0) {
             return on(p, a, b) || on(p, b, c) || on(p, a, c);

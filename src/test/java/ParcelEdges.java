@@ -45,7 +45,8 @@ final class ParcelEdges {
                 "parcelAt(0, 0, 7) = 1", "parcelAt(4, 7, 7) = 2", "parcelAt(4, 1, 0) = -1", "parcelAt(0, 0, 6) = -1");
         Edge.says(23, "Returns the number of the parcel, -1 if there is none.");
         Edge.onNew("parcelAt(0, 0, 0) = -1", "parcelAt(4, 7, 7) = -1", "paint(0, 0, 8, 8, 15) = 64",
-                "parcelAt(4, 7, 7) = 15", "parcelAt(0, 0, 0) = 15", "paint(0, 0, 8, 8, 0) = 64", "parcelAt(0, 7, 7) = 0");
+                "parcelAt(4, 7, 7) = 15", "parcelAt(0, 0, 0) = 15", "paint(0, 0, 8, 8, 0) = 64",
+                "parcelAt(0, 7, 7) = 0");
         Edge.says(23, "They are made from those of the level before.");
         Edge.on(rows("abbcccc"), fieldsAre(0, "0112222."), fieldsAre(1, "0112222."), fieldsAre(2, "1112222."),
                 fieldsAre(3, "1112222."), fieldsAre(4, "2222222."), "set(2, 1, 1) = 2", fieldsAre(2, "0112222."),
@@ -82,7 +83,8 @@ final class ParcelEdges {
         Edge.says(27, "A small parcel is merged into one of its neighbors: one with the same class, if there is one;");
         MapGeneralizer map = rows(".b", "bacc", ".bcc");
         Edge.on(map, "border(0, 0, 1) = 3", "became(2, 0) = 1", "setClass(1, 1) = 0", "became(2, 0) = 2",
-                "setClass(0, 1) = 0", "became(2, 0) = 1", "setClass(2, 1) = 0", "setClass(1, 0) = 1", "became(2, 0) = 2");
+                "setClass(0, 1) = 0", "became(2, 0) = 1", "setClass(2, 1) = 0", "setClass(1, 0) = 1",
+                "became(2, 0) = 2");
         Edge.says(27, "otherwise, unless merging is strict, any other;");
         Edge.on(map, "setClass(0, 3) = 1", "became(2, 0) = 1", "setStrict(true) = false", "became(4, 0) = 0",
                 "setClass(2, 3) = 1", "became(2, 0) = 2", "setClass(2, 2) = 3", "became(4, 0) = 0",
@@ -113,7 +115,8 @@ final class ParcelEdges {
         Edge.says(27, "All its fields belong to that neighbor then.");
         MapGeneralizer apart = rows("ab.....a", "", "", "", "", "", "", "a......a");
         Edge.on(apart, "set(4, 1, 5) = 4", "area(4, 0) = 5", "set(4, 1, 4) = 5", "paint(1, 0, 1, 5, 1) = 5",
-                "set(4, 1, 5) = 4", "area(4, 1) = 9", "area(4, 0) = 0", "parcelAt(4, 7, 7) = 1", "parcelAt(4, 0, 7) = 1",
+                "set(4, 1, 5) = 4", "area(4, 1) = 9", "area(4, 0) = 0", "parcelAt(4, 7, 7) = 1",
+                "parcelAt(4, 0, 7) = 1",
                 "parcelAt(4, 7, 0) = 1", "parcelAt(4, 0, 0) = 1", "parcelAt(4, 6, 0) = -1", "became(4, 0) = 1");
     }
 
@@ -166,10 +169,11 @@ final class ParcelEdges {
         Edge.on(checkered, "border(0, 0, 1) = 112", "border(4, 1, 0) = 112", "setClass(1, 1) = 0",
                 "outline(0, 0) = 112", "outline(4, 1) = 112", "outline(0, 2) = 0");
         Edge.says(25, "Returns the border of two parcels.");
-        Edge.on(Edge.made("paint(0, 0, 4, 8, 0)", "paint(4, 0, 4, 8, 15)"), "border(0, 0, 15) = 8", "border(4, 15, 0) = 8");
+        Edge.on(Edge.made("paint(0, 0, 4, 8, 0)", "paint(4, 0, 4, 8, 15)"), "border(0, 0, 15) = 8",
+                "border(4, 15, 0) = 8");
         Edge.says(25, "Returns the border, 0 if both are the same.");
-        Edge.on(rows("aab"), "border(0, 0, 0) = 0", "border(0, 1, 1) = 0", "border(0, 15, 15) = 0", "border(0, 0, 1) = 1",
-                "border(2, 0, 1) = 0", "border(0, 0, 2) = 0");
+        Edge.on(rows("aab"), "border(0, 0, 0) = 0", "border(0, 1, 1) = 0", "border(0, 15, 15) = 0",
+                "border(0, 0, 1) = 1", "border(2, 0, 1) = 0", "border(0, 0, 2) = 0");
         Edge.says(25, "Throws `IndexOutOfBoundsException` if one of the parcels does not exist");
         Edge.onNew("border(0, -1, 0) = !index", "border(0, 0, -1) = !index", "border(0, 16, 0) = !index",
                 "border(0, 0, 16) = !index", "border(0, -1, -1) = !index", "border(0, 16, 16) = !index",
@@ -192,8 +196,8 @@ final class ParcelEdges {
             Edge.on(all, "neighbors(0, 0) = " + among, "neighbors(0, " + parcel + ") = 1");
         }
         Edge.says(26, "Returns the neighbors of a parcel.");
-        Edge.on(rows("abbcccc"), "neighbors(0, 1) = 5", "neighbors(1, 1) = 5", "neighbors(2, 1) = 4", "neighbors(4, 2) = 0",
-                "neighbors(4, 1) = 0");
+        Edge.on(rows("abbcccc"), "neighbors(0, 1) = 5", "neighbors(1, 1) = 5", "neighbors(2, 1) = 4",
+                "neighbors(4, 2) = 0", "neighbors(4, 1) = 0");
         Edge.says(26, "Returns the set of parcels.");
         Edge.on(rows("apb"), "neighbors(0, 0) = 32768", "neighbors(0, 15) = 3", "neighbors(0, 14) = 0");
         Edge.onNew("neighbors(0, 0) = 0", "neighbors(4, 15) = 0");
@@ -225,7 +229,8 @@ final class ParcelEdges {
         MapGeneralizer map = rows("abcdefgh", "ijklmnop");
         Edge.on(map, "parcels(0, -1) = 16", "parcels(0, 0) = 16", "parcels(0, 3) = 0", "setClass(15, 3) = 0",
                 "parcels(0, 3) = 1", "parcels(0, 0) = 15", "paint(7, 1, 1, 1, 0) = 2", "parcels(0, 3) = 0",
-                "parcels(0, -1) = 15", "parcels(1, -1) = 15", "parcels(0, -2) = !argument", "parcels(0, 4) = !argument");
+                "parcels(0, -1) = 15", "parcels(1, -1) = 15", "parcels(0, -2) = !argument",
+                "parcels(0, 4) = !argument");
         Edge.says(28, "Returns the number.");
         Edge.onNew("parcels(0, -1) = 0", "parcels(4, 0) = 0", "paint(0, 0, 8, 8, 7) = 64", "parcels(0, -1) = 1",
                 "parcels(4, 0) = 1", "parcels(4, 1) = 0");
@@ -248,8 +253,8 @@ final class ParcelEdges {
     }
 
     private static void outline() {
-        Edge.says(30, "the number of pairs of fields next to one another of which exactly one belongs to a parcel of this"
-                + " class.");
+        Edge.says(30, "the number of pairs of fields next to one another of which exactly one belongs to a parcel of"
+                + " this class.");
         Edge.on(rows("a"), "outline(0, 0) = 2");
         Edge.on(rows(".a"), "outline(0, 0) = 3");
         Edge.on(rows("", ".a"), "outline(0, 0) = 4");

@@ -9,7 +9,8 @@ final class RefusalEdges {
     }
 
     static void run() {
-        Edge.says(3, "A method that throws an exception leaves the state unchanged, unless its documentation says otherwise.");
+        Edge.says(3, "A method that throws an exception leaves the state unchanged, unless its documentation says"
+                + " otherwise.");
         onSmallMap();
         onFullMap();
         onEmptyMap();
@@ -55,9 +56,11 @@ final class RefusalEdges {
     private static void onSmallMap() {
         unchanged(new Small(), "addPoint(64, 50, 5, 2, 1, 0) = !argument", "addPoint(48, 50, 5, 2, 1, 4) = !argument",
                 "addPoint(30, 30, 5, 2, 1, 0) = !unsupported", "addPoint(4, 11, 5, 2, 1, 0) = !unsupported",
-                "removeLine(3) = !index", "removeLine(-1) = !index", "removePoint(3) = !index", "removePoint(-1) = !index",
+                "removeLine(3) = !index", "removeLine(-1) = !index", "removePoint(3) = !index",
+                "removePoint(-1) = !index",
                 "setCorner(3, 0) = !index", "setCorner(0, 4) = !argument", "setCorner(0, -1) = !argument",
-                "paint(0, 0, 0, 1, 3) = !argument", "paint(0, 0, 9, 1, 3) = !argument", "paint(0, 0, 1, 1, 16) = !argument",
+                "paint(0, 0, 0, 1, 3) = !argument", "paint(0, 0, 9, 1, 3) = !argument",
+                "paint(0, 0, 1, 1, 16) = !argument",
                 "paint(0, 0, 1, 1, -2) = !argument", "setClass(16, 0) = !index", "setClass(0, 4) = !argument",
                 "set(0, 0, 0) = !argument", "set(4, 0, 501) = !argument", "set(4, 0, 23) = !state",
                 "set(1, 0, 17) = !state", "append(31) = !argument", "append(127) = !argument");
@@ -89,16 +92,19 @@ final class RefusalEdges {
     private static void onEmptyMap() {
         unchanged(new Empty(), "undo() = !element", "restore() = !state", "errorPosition() = !element",
                 "mostSimplified(4) = !element", "placedShare(0) = !arithmetic", "became(0, 0) = !element",
-                "removeLine(0) = !index", "removePoint(0) = !index", "setCorner(0, 0) = !index", "vertices(0, 0) = !index",
+                "removeLine(0) = !index", "removePoint(0) = !index", "setCorner(0, 0) = !index",
+                "vertices(0, 0) = !index",
                 "vertex(0, 0, 0, false) = !index", "lost(0, 0) = !index", "describe(0, 0, -1) = !index",
                 "position(0, 0) = !index", "refusal(0, 0, 0) = !index", "placedOn(0) = !index");
     }
 
     /** What read refuses leaves all but the input as it was, and no text keeps its error position. */
     private static void read() {
-        Edge.says(40, "A method that throws an exception leaves the state unchanged, unless its documentation says otherwise.");
+        Edge.says(40, "A method that throws an exception leaves the state unchanged, unless its documentation says"
+                + " otherwise.");
         String before = Sample.everything(Sample.small());
-        String[] rows = {"tell(7=9;P1,1r5w2h1;L0,10-0,20;) = !unsupported", "tell(7=9;L50,0-60,0;P30,30r5w2h1;) = !state",
+        String[] rows = {"tell(7=9;P1,1r5w2h1;L0,10-0,20;) = !unsupported",
+                "tell(7=9;L50,0-60,0;P30,30r5w2h1;) = !state",
             "tell(7=9;L50,0-60,0;L55,0-55,9;) = !unsupported", "tell(7=9;P50,0r5w2h1;L50,0-60,0;) = !unsupported",
             "tell(7=9;L50,0-60,0;P55,0r5w2h1;) = !state", "tell(F) = !argument"};
         for (String row : rows) {
@@ -117,11 +123,13 @@ final class RefusalEdges {
     private static void severalExceptions() {
         String sentence = "If several exceptions apply, the one that is documented first is thrown.";
         Edge.says(3, sentence);
-        Edge.on(Sample.full(), "addPoint(20, 40, 5, 2, 1, 4) = !argument", "addPoint(20, 40, 5, 2, 1, 3) = !unsupported",
+        Edge.on(Sample.full(), "addPoint(20, 40, 5, 2, 1, 4) = !argument",
+                "addPoint(20, 40, 5, 2, 1, 3) = !unsupported",
                 "addPoint(3, 4, 10, 2, 1, 0) = !argument", "addPoint(3, 4, 9, 2, 1, 0) = !unsupported",
                 "addPoint(64, 40, 9, 2, 1, 0) = !argument", "addPoint(63, 40, 9, 2, 1, 0) = !state");
         Edge.says(6, sentence);
-        Edge.on(Sample.small(), "setCorner(3, 4) = !index", "setCorner(-1, -1) = !index", "setCorner(2, 4) = !argument");
+        Edge.on(Sample.small(), "setCorner(3, 4) = !index", "setCorner(-1, -1) = !index",
+                "setCorner(2, 4) = !argument");
         Edge.says(8, sentence);
         Edge.onNew("setClass(16, 4) = !index", "setClass(-1, -1) = !index", "setClass(15, 4) = !argument");
         Edge.says(10, sentence);
@@ -133,11 +141,13 @@ final class RefusalEdges {
         Edge.onNew("vertices(5, 0) = !argument", "vertices(4, 0) = !index");
         Edge.says(15, sentence);
         Edge.on(Sample.small(), "vertex(5, 3, 9, true) = !argument", "vertex(5, 0, 9, true) = !argument",
-                "vertex(-1, 3, 0, true) = !argument", "vertex(4, 3, 9, true) = !index", "vertex(4, 0, 9, true) = !index");
+                "vertex(-1, 3, 0, true) = !argument", "vertex(4, 3, 9, true) = !index",
+                "vertex(4, 0, 9, true) = !index");
         Edge.says(17, sentence);
         Edge.on(Sample.small(), "why(5, 3, 9) = !argument", "why(5, 0, 9) = !argument", "why(4, 3, 9) = !index");
         Edge.says(18, sentence);
-        Edge.on(Sample.small(), "weight(5, 3, 9) = !argument", "weight(5, 0, 9) = !argument", "weight(4, 3, 9) = !index");
+        Edge.on(Sample.small(), "weight(5, 3, 9) = !argument", "weight(5, 0, 9) = !argument",
+                "weight(4, 3, 9) = !index");
         Edge.says(20, sentence);
         Edge.onNew("extent(5, 0) = !argument", "extent(4, 0) = !index");
         Edge.says(21, sentence);
@@ -172,7 +182,8 @@ final class RefusalEdges {
         Edge.says(40, sentence);
         Edge.on(Edge.made(SIX_LINES), "tell(L3,1-3,9;P3,0r1w2h1) = !argument", "tell(L3,1-3,9;) = !unsupported",
                 "tell(L3,1-3,1;) = !unsupported", "tell(L3,1-4,1-3,1;) = !unsupported", "tell(L3,1-4,1;) = !state",
-                "addPoint(20, 20, 5, 2, 1, 0) = 0", "tell(L20,20-30,20;) = !unsupported", "tell(L21,20-30,20;) = !state");
+                "addPoint(20, 20, 5, 2, 1, 0) = 0", "tell(L20,20-30,20;) = !unsupported",
+                "tell(L21,20-30,20;) = !state");
         Edge.says(42, sentence);
         Edge.onNew("describe(5, 0, -2) = !argument", "describe(4, 0, -2) = !index", "describe(4, 0, 0) = !index",
                 "tell(L0,0-5,5;) = 1", "describe(5, 0, 99) = !argument", "describe(4, 0, 99) = !element");

@@ -58,14 +58,18 @@ final class Sample {
         }
     }
 
+    private static int number(MapGeneralizer map, String call) {
+        return Integer.parseInt(Calls.answer(map, call));
+    }
+
     private static void askMap(MapGeneralizer map, StringBuilder all) {
-        for (int line = 0; line < map.count(0); line++) {
-            for (int index = 0; index < map.vertices(0, line); index++) {
+        for (int line = 0; line < number(map, "count(0)"); line++) {
+            for (int index = 0; index < number(map, "vertices(0, " + line + ")"); index++) {
                 ask(map, all, "vertex(0, " + line + ", " + index + ", false)",
                         "vertex(0, " + line + ", " + index + ", true)");
             }
         }
-        for (int point = 0; point < map.count(1); point++) {
+        for (int point = 0; point < number(map, "count(1)"); point++) {
             for (int what = 0; what < 6; what++) {
                 ask(map, all, "point(" + point + ", " + what + ")");
             }
@@ -88,7 +92,7 @@ final class Sample {
         for (int column = 0; column < 8; column++) {
             ask(map, all, "parcelAt(0, " + column + ", 0)", "parcelAt(4, " + column + ", 0)");
         }
-        for (int point = 0; point < map.count(1); point++) {
+        for (int point = 0; point < number(map, "count(1)"); point++) {
             ask(map, all, "position(0, " + point + ")", "placedOn(" + point + ")");
         }
     }
